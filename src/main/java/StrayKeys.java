@@ -37,7 +37,7 @@ public final class StrayKeys {
     private final Moment ahead = new Moment();
     private final Wires wires = new Wires();
     private final int[] bySet = new int[SETS_MOST];
-    private final int[] byKind = new int[KINDS];
+    private final int[][] byKind = new int[KINDS][SETS_MOST];
     private final int[] timesFound = new int[FINDINGS_MOST + 1];
     private int latestFinding = 0;
     private int answer = 0;
@@ -198,8 +198,8 @@ public final class StrayKeys {
         if (!within(l, LINES)) {
             return BAD;
         }
-        wires.connect(keys, now, now.pressed);
-        return wires.columnsFrom(l);
+        wires.attach(keys, now);
+        return wires.columnsReadBy(l, now.pressed);
     }
 
     // ---- 2 deeds
@@ -296,13 +296,13 @@ public final class StrayKeys {
             return STATE;
         }
         ahead.copyFrom(now);
-        int last = wires.toldOf(keys, ahead, ahead.pressed);
+        int last = toldAt(ahead);
         bySet[0] = last;
         int different = 1;
         for (int s = 0; s < n; s++) {
             ahead.passScan();
-            last = wires.toldOf(keys, ahead, ahead.pressed);
-            if (!isAmongFirst(different, last)) {
+            last = toldAt(ahead);
+            if (different < SETS_MOST && !isAmongFirst(different, last)) {
                 bySet[different] = last;
                 different++;
             }
@@ -318,7 +318,8 @@ public final class StrayKeys {
         if (keys.size == 0) {
             return STATE;
         }
-        return wires.toldOf(keys, now, set);
+        wires.attach(keys, now);
+        return wires.toldOf(set);
     }
 
     // ---- 4 sets (aside: as by would())
@@ -330,9 +331,10 @@ public final class StrayKeys {
         int sets = keys.sets();
         int fewest = KEYS_MOST + 1;
         int least = NONE;
+        wires.attach(keys, now);
         for (int set = 0; set < sets; set++) {
             int size = Integer.bitCount(set);
-            if (!holds(set, i) && size < fewest && holds(wires.toldOf(keys, now, set), i)) {
+            if (!holds(set, i) && size < fewest && holds(wires.toldOf(set), i)) {
                 fewest = size;
                 least = set;
             }
@@ -347,7 +349,7 @@ public final class StrayKeys {
         if (keys.size == 0) {
             return STATE;
         }
-        fillBySet(keys);
+        fillBySet();
         int sets = keys.sets();
         int rightSets = 0;
         int fewestWrong = keys.size + 1;
@@ -366,7 +368,7 @@ public final class StrayKeys {
         if (keys.size == 0) {
             return STATE;
         }
-        fillBySet(keys);
+        fillBySet();
         int sets = keys.sets();
         int wanted = toldNow();
         int least = NONE;
@@ -443,11 +445,12 @@ public final class StrayKeys {
         if (fitting == 0) {
             return NONE;
         }
+        fillByKind(i, fitting);
         int sets = keys.sets();
         int least = KINDS + 1;
         int first = 0;
         for (int set = 0; set < sets; set++) {
-            int part = greatestPart(i, fitting, set);
+            int part = greatestPart(fitting, set);
             if (part < least) {
                 least = part;
                 first = set;
@@ -466,7 +469,7 @@ public final class StrayKeys {
         if (keys.size == 0) {
             return STATE;
         }
-        fillBySet(keys);
+        fillBySet();
         int sets = keys.sets();
         for (int set = 0; set < sets; set++) {
             bySet[set] = ghostsOf(set);
@@ -484,7 +487,7 @@ public final class StrayKeys {
         if (refusal != 0) {
             return refusal;
         }
-        fillBySet(keys);
+        fillBySet();
         int sets = keys.sets();
         long sum = 0;
         for (int set = 0; set < sets; set++) {
@@ -501,7 +504,7 @@ public final class StrayKeys {
         if (refusal != 0) {
             return refusal;
         }
-        fillBySet(keys);
+        fillBySet();
         int sets = keys.sets();
         long sum = 0;
         for (int set = 0; set < sets; set++) {
@@ -702,7 +705,12 @@ public final class StrayKeys {
     }
 
     private int toldNow() {
-        return wires.toldOf(keys, now, now.pressed);
+        return toldAt(now);
+    }
+
+    private int toldAt(Moment moment) {
+        wires.attach(keys, moment);
+        return wires.toldOf(moment.pressed);
     }
 
     private int keyFact(int i, int what) {
@@ -730,7 +738,8 @@ public final class StrayKeys {
     private int toldWerePlain(int i) {
         guess.copyFrom(keys);
         guess.turnInto(i, PLAIN);
-        return Integer.bitCount(wires.toldOf(guess, now, now.pressed));
+        wires.attach(guess, now);
+        return Integer.bitCount(wires.toldOf(now.pressed));
     }
 
     /** In how many scans from now on key i, pressed and of a kind, would conduct. */
@@ -759,18 +768,20 @@ public final class StrayKeys {
 
     // ---- sets
 
-    private void fillBySet(Layout layout) {
-        int sets = layout.sets();
+    private void fillBySet() {
+        wires.attach(keys, now);
+        int sets = keys.sets();
         for (int set = 0; set < sets; set++) {
-            bySet[set] = wires.toldOf(layout, now, set);
+            bySet[set] = wires.toldOf(set);
         }
     }
 
     private int rightSetsOf(Layout layout) {
+        wires.attach(layout, now);
         int many = 0;
         int sets = layout.sets();
         for (int set = 0; set < sets; set++) {
-            if (wires.toldOf(layout, now, set) == set) {
+            if (wires.toldOf(set) == set) {
                 many++;
             }
         }
@@ -788,9 +799,10 @@ public final class StrayKeys {
     }
 
     private boolean fits(Layout layout, int r) {
+        wires.attach(layout, now);
         int size = rows.size(r);
         for (int p = 0; p + 1 < size; p += 2) {
-            if (wires.toldOf(layout, now, rows.get(r, p)) != rows.get(r, p + 1)) {
+            if (wires.toldOf(rows.get(r, p)) != rows.get(r, p + 1)) {
                 return false;
             }
         }
@@ -809,30 +821,34 @@ public final class StrayKeys {
         return fitting;
     }
 
-    /** How many of these kinds, at most, a set does not tell apart. */
-    private int greatestPart(int i, int fitting, int set) {
+    /** Fills the table by kinds and sets with what is told, were key i of these kinds. */
+    private void fillByKind(int i, int fitting) {
         guess.copyFrom(keys);
-        int greatest = 0;
+        int sets = keys.sets();
         for (int kind = 0; kind < KINDS; kind++) {
-            byKind[kind] = NONE;
             if (holds(fitting, kind)) {
                 guess.turnInto(i, kind);
-                byKind[kind] = wires.toldOf(guess, now, set);
-                greatest = Math.max(greatest, likeUpTo(kind));
+                wires.attach(guess, now);
+                for (int set = 0; set < sets; set++) {
+                    byKind[kind][set] = wires.toldOf(set);
+                }
             }
         }
-        return greatest;
     }
 
-    /** How many kinds up to one have the same told as it. */
-    private int likeUpTo(int kind) {
-        int many = 0;
-        for (int other = 0; other <= kind && other < KINDS; other++) {
-            if (byKind[other] == byKind[kind]) {
-                many++;
+    /** How many of these kinds, at most, a set does not tell apart. */
+    private int greatestPart(int fitting, int set) {
+        int greatest = 0;
+        for (int kind = 0; kind < KINDS; kind++) {
+            int part = 0;
+            for (int other = 0; other < KINDS; other++) {
+                if (holds(fitting, kind) && holds(fitting, other) && byKind[other][set] == byKind[kind][set]) {
+                    part++;
+                }
             }
+            greatest = Math.max(greatest, part);
         }
-        return many;
+        return greatest;
     }
 
     /** From what each set is worth behind a turn to what it is worth ahead of it. */
@@ -1203,61 +1219,88 @@ public final class StrayKeys {
         }
     }
 
-    /** The ways a current can go. */
+    /** The ways a current can go: attached to keys at a moment, asked for one set of pressed keys after the other. */
     private static final class Wires {
+        private final int[] line = new int[KEYS_MOST];
+        private final int[] columnBit = new int[KEYS_MOST];
         /** Of each line the columns to which its keys let current through, and those from which they do. */
         private final int[] forth = new int[LINES];
         private final int[] back = new int[LINES];
         private final int[] comesOut = new int[LINES];
+        private int size = 0;
+        /** Keys that let current through once they are pressed, those that always do, those that let none back. */
+        private int ready = 0;
+        private int always = 0;
+        private int oneWay = 0;
 
-        void connect(Layout layout, Moment moment, int set) {
+        void attach(Layout layout, Moment moment) {
+            size = layout.size;
+            ready = 0;
+            always = 0;
+            oneWay = 0;
+            for (int i = 0; i < size && i < KEYS_MOST; i++) {
+                int bit = 1 << i;
+                line[i] = layout.line[i];
+                columnBit[i] = 1 << layout.column[i];
+                boolean whole = !holds(moment.severed, line[i]);
+                ready |= whole && layout.conducts(i, moment, bit) ? bit : 0;
+                always |= whole && layout.conducts(i, moment, 0) ? bit : 0;
+                oneWay |= isOf(layout.kind[i], VALVE) ? bit : 0;
+            }
+        }
+
+        private void connect(int set) {
+            int live = (set & ready) | always;
             for (int l = 0; l < LINES; l++) {
                 forth[l] = 0;
                 back[l] = 0;
             }
-            for (int i = 0; i < layout.size && i < KEYS_MOST; i++) {
-                int l = layout.line[i];
-                if (within(l, LINES) && !holds(moment.severed, l) && layout.conducts(i, moment, set)) {
-                    int bit = 1 << layout.column[i];
-                    forth[l] |= bit;
-                    back[l] |= isOf(layout.kind[i], VALVE) ? 0 : bit;
+            for (int i = 0; i < size && i < KEYS_MOST; i++) {
+                int l = line[i];
+                if (((live >> i) & 1) != 0 && l >= 0 && l < LINES) {
+                    forth[l] |= columnBit[i];
+                    back[l] |= ((oneWay >> i) & 1) != 0 ? 0 : columnBit[i];
                 }
             }
         }
 
         /** The columns on which a current comes out that begins at a line. */
-        int columnsFrom(int start) {
+        private int columnsFrom(int start) {
             if (!within(start, LINES)) {
                 return 0;
             }
             int columns = forth[start];
             int lines = 1 << start;
+            int before = 0;
             // Each round but the last comes to one more line at least.
-            for (int round = 1; round < LINES; round++) {
-                int before = lines;
+            for (int round = 0; round < LINES && columns != 0 && lines != before; round++) {
+                before = lines;
                 for (int l = 0; l < LINES; l++) {
-                    if (!holds(lines, l) && (back[l] & columns) != 0) {
+                    if (((lines >> l) & 1) == 0 && (back[l] & columns) != 0) {
                         lines |= 1 << l;
                         columns |= forth[l];
                     }
-                }
-                if (lines == before) {
-                    return columns;
                 }
             }
             return columns;
         }
 
+        /** The columns that a line reads, if just a set is pressed. */
+        int columnsReadBy(int l, int set) {
+            connect(set);
+            return columnsFrom(l);
+        }
+
         /** The keys that are told, if just a set is pressed. */
-        int toldOf(Layout layout, Moment moment, int set) {
-            connect(layout, moment, set);
+        int toldOf(int set) {
+            connect(set);
             for (int l = 0; l < LINES; l++) {
                 comesOut[l] = columnsFrom(l);
             }
             int toldKeys = 0;
-            for (int i = 0; i < layout.size && i < KEYS_MOST; i++) {
-                int l = layout.line[i];
-                if (within(l, LINES) && holds(comesOut[l], layout.column[i])) {
+            for (int i = 0; i < size && i < KEYS_MOST; i++) {
+                int l = line[i];
+                if (l >= 0 && l < LINES && (comesOut[l] & columnBit[i]) != 0) {
                     toldKeys |= 1 << i;
                 }
             }

@@ -161,6 +161,8 @@ public final class PromiseTest {
         c.found(x, "mean nothing", x.mean(0), NOTHING);
         x.row(0, 0);
         c.found(x, "mean nought", x.mean(0), NOUGHT);
+        Checks.layRow(x, 0, -9);
+        c.told(x, "mean of one", x.mean(0), 1, -9);
         Checks.layRow(x, 0, 1, 2, 2);
         c.told(x, "mean cut", x.mean(0), 1, 1);
         Checks.layRow(x, 0, -1, -2, -2);
@@ -429,6 +431,13 @@ public final class PromiseTest {
         stuck.press(3);
         c.due("stuck, told anyhow", stuck.mark(0, 3), 10);
         c.found(stuck, "a stuck one is no valve", stuck.mark(0, 1), UNLIKE);
+        Checks.write(stuck, 1, "k000 k010");
+        stuck.fault(1);
+        stuck.press(3);
+        c.due("stuck behind a fault", stuck.mark(0, 3), 12);
+        Checks.write(shy, 1, "u007 u010");
+        shy.fault(1);
+        c.due("worn behind a fault", shy.mark(1, 5), 3);
     }
 
     private static void deeds() {
@@ -492,6 +501,13 @@ public final class PromiseTest {
         c.due("full again", x.scan(), FULL);
         x.undo(21);
         c.due("lots one too many", x.lots(20, 1), FULL);
+        x.undo(0);
+        Checks.scans(x, 39);
+        c.due("the fortieth scan", x.scan(), 0);
+        x.undo(39);
+        c.due("the fortieth cut", x.cut(0), 1);
+        x.undo(39);
+        c.due("the fortieth by lots", x.lots(1, 1), 1);
     }
 
     private static void undo() { // 18
@@ -614,6 +630,13 @@ public final class PromiseTest {
         c.due("later 21", x.later(21), BAD);
         c.due("later -1", x.later(-1), BAD);
         c.due("later does nothing", x.digest(), before);
+        x.press(3);
+        c.told(x, "later, one let go", x.later(12), 7, 5);
+        x.cut(1);
+        c.told(x, "later, cut", x.later(6), 5, 4);
+        StrayKeys shy = Checks.boardOf("s000 k110");
+        Checks.press(shy, 0, 1);
+        c.told(shy, "later, the first once more", shy.later(2), 3, 2);
         StrayKeys held = Checks.boardOf("t009 k110");
         held.press(0);
         c.told(held, "later 8", held.later(8), 0, 1);
@@ -791,6 +814,25 @@ public final class PromiseTest {
         // 1 parts key, valve, stuck from shy, tight, worn; 6 parts stuck from the others;
         // 7: key, stuck with the ghost, valve without it, the rest not.
         c.told(x, "test in an odd scan", x.test(0, 0), 1, 3);
+        Checks.layRow(x, 0, 7, 15, 0, 0);
+        c.due("kinds: a plain key alone", x.kinds(0, 0), 1);
+        c.told(x, "test of a plain key alone", x.test(0, 0), 0, 1);
+        x.row(0, 0);
+        x.cut(0);
+        c.told(x, "test in vain", x.test(0, 0), 0, 6);
+        x.cut(0);
+        x.best();
+        x.fault(1);
+        Checks.write(x, 1, "u000 u010");
+        x.fault(1);
+        c.told(x, "test behind a fault", x.test(0, 0), 1, 3);
+        x.fault(1);
+        c.due("kinds behind a fault", x.kinds(0, 0), 63);
+        x.undo(0);
+        Checks.layRow(x, 0, 7, 7, 0, 0);
+        x.fault(1);
+        c.due("one kind behind a fault", x.kinds(0, 0), 2);
+        c.told(x, "test of one behind a fault", x.test(0, 0), 0, 1);
     }
 
     private static void turns() { // 32
@@ -811,6 +853,16 @@ public final class PromiseTest {
         c.due("duel does nothing", x.digest(), before);
         StrayKeys stuck = Checks.boardOf("u000 u110 u220");
         duels(stuck, "stuck", new int[] {3, 3, 2, 2, 1});
+        StrayKeys one = Checks.boardOf("k000 u010 u100 k110");
+        Checks.press(one, 1, 2);
+        duels(one, "by either key", new int[] {0, 1, 0, 1, 0});
+        StrayKeys lead = Checks.boardOf("k000 u110 k220");
+        duels(lead, "all but the last pressed", new int[] {1, 1, 0, 0, 0});
+        lead.press(1);
+        duels(lead, "none left", new int[] {0, 0, 0, 0, 0});
+        StrayKeys only = Checks.boardOf("u000 k010 k100 v110");
+        Checks.press(only, 1, 2);
+        duels(only, "the first key alone", new int[] {2, 2, 1, 1, 0});
         StrayKeys tight = Checks.boardOf("u000 t011 u100 k110");
         duels(tight, "a tight one does not conduct", new int[] {2, 3, 2, 2, 1});
     }
@@ -838,6 +890,8 @@ public final class PromiseTest {
         c.due("mid 13", x.mid(13), BAD);
         fraction(x, "refused leaves it", 1, 11, 5184);
         fraction(x, "mid 0", x.mid(0), 0, 1);
+        StrayKeys first = Checks.boardOf(SQUARE);
+        fraction(first, "mid ahead of odds", first.mid(6), 1, 4);
         StrayKeys stuck = Checks.boardOf("u000 u110 u220 u330 u040 u150 u200");
         fraction(stuck, "odds 5 of 7", stuck.odds(5), 78125, 35831808);
         fraction(stuck, "odds 0 of 7", stuck.odds(0), 0, 1);
@@ -883,6 +937,15 @@ public final class PromiseTest {
         c.due("lots: cut too", x.count(4), 12);
         c.due("lots join", x.lots(1, 8), 0);
         c.due("lots: joined", x.count(4), 4);
+        x.undo(0);
+        // 3 times 48271 is 144813, 5 modulo 8; 5 times it is 241355, 3 modulo 8; 7 times it is 337897, 1 modulo 8.
+        x.lots(1, 5);
+        x.lots(1, 7);
+        c.due("lots: scans by 3 and 1", x.count(1), 2);
+        x.lots(1, 3);
+        c.due("lots: no scan by 5", x.count(1), 2);
+        // 12 times it is 579252, 4 modulo 8: key 72406 modulo 4.
+        c.due("lots: by 4", x.lots(1, 12) >= 0 ? x.count(3) & 4 : 0, 4);
         StrayKeys two = Checks.boardOf("k000 k110");
         c.due("lots of two keys", two.lots(1, 1), 1);
         c.due("lots: the key", two.count(3), 2);
