@@ -59,6 +59,12 @@ final class Checks {
         }
     }
 
+    static void cuts(StrayKeys x, int... lines) {
+        for (int l : lines) {
+            x.cut(l);
+        }
+    }
+
     static void scans(StrayKeys x, int n) {
         for (int s = 0; s < n; s++) {
             x.scan();
