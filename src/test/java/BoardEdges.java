@@ -24,6 +24,7 @@ final class BoardEdges {
         earlyEnd();
         fault();
         board();
+        boardBehindAnother();
         boardRefused();
         key();
         keyRefused();
@@ -224,6 +225,30 @@ final class BoardEdges {
         }
         e.answers("two", Scenes.then(Scenes::rich, x -> Checks.write(x, 3, "k000k110")), x -> x.board(3), 2);
         e.answers("seven", Scenes::rich, x -> x.board(0), 7);
+    }
+
+    /** Of a greater board nothing is left behind on a smaller one. */
+    private void boardBehindAnother() {
+        e.sentence(11, "A BOARD by a TEXT (anew: as told at first, no DEEDS");
+        String[] greater = {"k000 k110 v010 t100 s020 w120 u350", "u000 u010 u020 u100 u110 u120 u350"};
+        for (String signs : greater) {
+            Edges.Scene smaller = Scenes.of(signs, x -> {
+                Checks.press(x, 0, 1, 2, 3, 4, 5, 6);
+                Checks.scans(x, 3);
+                x.row(1, 0);
+                Checks.write(x, 1, Scenes.APART);
+                x.board(1);
+            });
+            e.answers("VALVES", smaller, x -> x.count(9), 0);
+            e.answers("SHY ones", smaller, x -> x.count(10), 0);
+            e.answers("TOLD", smaller, x -> x.told(), 0);
+            e.answers("LINE 3 READS", smaller, x -> x.reads(3), 0);
+            e.answers("sets that are right", smaller, x -> x.right(), 4);
+            e.answers("places", smaller, x -> x.places(0, 1), 23);
+            e.refuses("KEY 2", smaller, x -> x.key(2, 0), BAD);
+            e.refuses("a KEY of 2", smaller, x -> x.press(2), BAD);
+            e.refuses("a set of 2", smaller, x -> x.would(4), BAD);
+        }
     }
 
     private void boardRefused() {

@@ -2,12 +2,15 @@ import java.lang.reflect.Method;
 import java.util.Arrays;
 import java.util.Comparator;
 import java.util.Random;
+import java.util.Set;
 
 /** Runs of calls by chance (always the same ones): StrayKeys answers as the model does. */
 public final class ModelTest {
-    private static final int RUNS = 150, CALLS = 500;
+    /** An object is used for at most 512 calls; a step takes fewer than 80 of them. */
+    private static final int RUNS = 700, CALLS_MOST = 512, STEP_MOST = 80;
     private static final int[] EDGES = {Integer.MIN_VALUE, -2, -1, 0, 1, 2, 3, 4, 5, 6, 7, 8, 9, 10, 12, 13, 20, 21,
         39, 40, 41, 59, 60, 61, 127, 128, 255, 2147483646, Integer.MAX_VALUE};
+    private static final Set<String> WRITES = Set.of("text", "put", "row", "lay");
     private static final Checks c = new Checks("ModelTest");
 
     private final Random random;
@@ -17,6 +20,7 @@ public final class ModelTest {
     private final Model model = new Model();
     private final StringBuilder story = new StringBuilder();
     private boolean wrong = false;
+    private int used = 0;
 
     private ModelTest(long seed) throws ReflectiveOperationException {
         random = new Random(seed);
@@ -37,9 +41,9 @@ public final class ModelTest {
     }
 
     private void go(int run) throws ReflectiveOperationException {
-        for (int n = 0; n < CALLS && !wrong; n++) {
+        for (int n = 0; n < CALLS_MOST && used < CALLS_MOST - STEP_MOST && !wrong; n++) {
             int dice = random.nextInt(100);
-            if (dice < 2 || n == 5) {
+            if (dice < 1 || n == 5) {
                 writeBoard();
             } else if (dice < 8) {
                 writePairs();
@@ -53,7 +57,7 @@ public final class ModelTest {
                 anyCall();
             }
         }
-        c.yes("run " + run + story, !wrong);
+        c.yes("run " + run + (wrong ? story : ""), !wrong && used <= CALLS_MOST);
     }
 
     private void writeBoard() throws ReflectiveOperationException {
@@ -98,11 +102,11 @@ public final class ModelTest {
     private void writePairs() throws ReflectiveOperationException {
         int r = random.nextInt(6);
         int pairs = random.nextInt(4);
-        int sets = 1 << Math.min(7, x.count(0));
+        int sets = 1 << Math.min(7, model.count(0));
         both("row", r, 2 * pairs);
         for (int p = 0; p < pairs; p++) {
             int set = random.nextInt(sets);
-            int told = Math.max(0, x.would(set)) ^ (random.nextInt(3) == 0 ? random.nextInt(sets) : 0);
+            int told = Math.max(0, model.would(set)) ^ (random.nextInt(3) == 0 ? random.nextInt(sets) : 0);
             both("lay", r, 2 * p, set);
             both("lay", r, 2 * p + 1, told);
         }
@@ -143,14 +147,26 @@ public final class ModelTest {
         }
         Number got = (Number) calls[k].invoke(x, arguments);
         Number want = (Number) twins[k].invoke(model, arguments);
+        used++;
         story.append("\n  ").append(calls[k].getName()).append(Arrays.toString(arguments)).append(" ").append(got);
-        boolean like = got.longValue() == want.longValue() && x.asked() == model.asked()
-            && x.upper() == model.upper() && x.lower() == model.lower() && x.finding() == model.finding();
+        if (got.longValue() != want.longValue()) {
+            wrong = true;
+            story.append(", due is ").append(want);
+        } else if (!WRITES.contains(calls[k].getName()) && random.nextInt(2) == 0) {
+            look();
+        }
+    }
+
+    /** Looks at all that the two tell of themselves. */
+    private void look() {
+        used += 5;
+        boolean like = x.asked() == model.asked() && x.upper() == model.upper() && x.lower() == model.lower();
+        like &= x.finding() == model.finding();
         like &= x.digest() == model.digest();
         if (!like) {
             wrong = true;
-            story.append(", due is ").append(want).append("; asked ").append(x.asked()).append(", ")
-                .append(model.asked()).append("; finding ").append(x.finding()).append(", ").append(model.finding());
+            story.append(": asked ").append(x.asked()).append(", due is ").append(model.asked())
+                .append("; finding ").append(x.finding()).append(", due is ").append(model.finding());
         }
     }
 }

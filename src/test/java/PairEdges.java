@@ -193,6 +193,8 @@ final class PairEdges {
         e.answers("one KIND", rowOf(apart, 0, 1), x -> x.test(0, 3), 0);
         e.sentence(31, "that part by asked()");
         e.tells("one", rowOf(apart, 0, 1), x -> x.test(0, 3), 0, 1);
+        Edges.Scene odd = Scenes.of("k001 k010 k100 k110", x -> x.scan());
+        e.tells("one, a plain KEY", rowOf(odd, 7, 15, 0, 0), x -> x.test(0, 3), 0, 1);
         e.tells("three", rowOf(Scenes.of("k001 k110", x -> x.scan())), x -> x.test(0, 3), 1, 3);
         e.tells("four", rowOf(Scenes.of("k001 k010 k100 k110")), x -> x.test(0, 3), 7, 4);
         e.tells("five", rowOf(apart), x -> x.test(0, 3), 0, 5);

@@ -33,6 +33,7 @@ final class TermsEdges {
         cut();
         deeds();
         aside();
+        asideOfOneAnother();
         pairs();
     }
 
@@ -369,6 +370,30 @@ final class TermsEdges {
         e.answers("HELD for 1 of 2", once, x -> x.right(), 2);
         e.answers("HELD for 2 of 2", Scenes.then(once, x -> x.scan()), x -> x.right(), 4);
         e.answers("let go", Scenes.then(once, x -> Checks.press(x, 0)), x -> x.right(), 2);
+    }
+
+    /** What one of these calls is asked leaves nothing behind that another one's answer shows. */
+    private void asideOfOneAnother() {
+        e.sentence(0, "---- 3 what is told (aside)");
+        Edges.Call[] calls = {x -> x.told(), x -> x.ghosts(), x -> x.later(20), x -> x.would(99), x -> x.haunts(3),
+            x -> x.right(), x -> x.alike(), x -> x.best(), x -> x.kinds(0, 1), x -> x.kinds(6, 3), x -> x.places(2, 1),
+            x -> x.places(5, 3), x -> x.test(1, 1), x -> x.test(6, 3), x -> x.duel(4), x -> x.odds(7), x -> x.mid(7),
+            x -> x.fault(0), x -> x.fault(1), x -> x.fault(2), x -> x.mark(4, 1), x -> x.mark(5, 2), x -> x.mark(3, 3),
+            x -> x.mark(4, 4), x -> x.mark(5, 5), x -> x.reads(3), x -> x.key(0, 7), x -> x.count(5), x -> x.digest()};
+        Edges.Scene scene = Scenes.then(Scenes::rich, x -> {
+            Checks.write(x, 2, "u310 u000 u210");
+            Checks.layRow(x, 3, 0, 8, 127, x.would(127));
+        });
+        for (int first = 0; first < calls.length; first++) {
+            for (int second = 0; second < calls.length; second++) {
+                Edges.Call ahead = calls[first];
+                Edges.Call behind = calls[second];
+                StrayKeys alone = scene.make();
+                long want = behind.of(alone);
+                Edges.Scene both = Scenes.then(scene, x -> ahead.of(x));
+                e.answers("call " + second + " behind call " + first, both, behind, want);
+            }
+        }
     }
 
     private void pairs() {

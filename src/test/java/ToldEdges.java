@@ -78,6 +78,8 @@ final class ToldEdges {
         e.aside("behind 0", Scenes::rich, x -> x.later(0));
         e.aside("behind 20", Scenes::rich, x -> x.later(20));
         e.aside("behind 20, though there are 40 DEEDS", Scenes::full, x -> x.later(20));
+        e.answers("on a CUT LINE", Scenes.then(tight, x -> x.cut(1)), x -> x.later(20), 1);
+        e.answers("on the other LINE that is CUT", Scenes.then(tight, x -> x.cut(0)), x -> x.later(20), 2);
         e.answers("not PRESSED, it is not HELD", Scenes.of("t001 k110"), x -> x.later(20), 0);
     }
 
